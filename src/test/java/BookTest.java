@@ -1,13 +1,5 @@
 /** Promises 6 (post), 7 (historic), 8 (posted) and 9 (isBalanced). */
-public final class BookTest {
-    private static final int NONE = ConsolidationDesk.NONE;
-    private static final long LIMIT = 1_000_000_000_000L;
-    private static final int BALANCE = 0;
-    private static final int RESULT = 1;
-    private static final int EQUITY = 2;
-    private static final int RESERVE = 3;
-    private static final Checks CHECKS = new Checks();
-
+public final class BookTest extends DeskTest {
     public static void main(String[] args) {
         postAndPosted();
         wrongNumbers();
@@ -20,18 +12,8 @@ public final class BookTest {
         CHECKS.end();
     }
 
-    private static ConsolidationDesk desk() {
-        ConsolidationDesk x = new ConsolidationDesk();
-        x.company(1);
-        x.company(0);
-        for (int sort = 1; sort <= 4; sort++) {
-            x.account(sort);
-        }
-        return x;
-    }
-
     private static void postAndPosted() {
-        ConsolidationDesk x = desk();
+        ConsolidationDesk x = desk(1, 0);
         CHECKS.due("8: nothing was posted", x.posted(1, BALANCE, NONE), 0);
         CHECKS.due("6: a debit", x.post(1, BALANCE, NONE, 70), true);
         CHECKS.due("6: a credit more", x.post(1, BALANCE, NONE, -100), true);
@@ -51,7 +33,7 @@ public final class BookTest {
     }
 
     private static void wrongNumbers() {
-        ConsolidationDesk x = desk();
+        ConsolidationDesk x = desk(1, 0);
         int[] wrong = {-2, 12, 13, Integer.MIN_VALUE, Integer.MAX_VALUE};
         for (int w : wrong) {
             refused(x, w, BALANCE, NONE);
@@ -83,7 +65,7 @@ public final class BookTest {
     }
 
     private static void whatAccountsTake() {
-        ConsolidationDesk x = desk();
+        ConsolidationDesk x = desk(1, 0);
         CHECKS.due("6: balance with a partner", x.post(0, BALANCE, 1, 1), true);
         CHECKS.due("6: result without", x.post(0, RESULT, NONE, 1), true);
         CHECKS.due("6: equity without", x.post(0, EQUITY, NONE, 1), true);
@@ -98,7 +80,7 @@ public final class BookTest {
     }
 
     private static void greatSums() {
-        ConsolidationDesk x = desk();
+        ConsolidationDesk x = desk(1, 0);
         CHECKS.due("6: too great", x.post(0, BALANCE, NONE, LIMIT + 1), false);
         CHECKS.due("6: too great a credit", x.post(0, BALANCE, NONE, -LIMIT - 1), false);
         CHECKS.due("8: nothing was changed", x.posted(0, BALANCE, NONE), 0);
@@ -118,7 +100,7 @@ public final class BookTest {
     }
 
     private static void balance() {
-        ConsolidationDesk x = desk();
+        ConsolidationDesk x = desk(1, 0);
         int[] wrong = {-1, 3, 12, Integer.MIN_VALUE, Integer.MAX_VALUE};
         for (int w : wrong) {
             CHECKS.due("9: isBalanced(" + w + ")", x.isBalanced(w), NONE);
@@ -139,7 +121,7 @@ public final class BookTest {
     }
 
     private static void historicAmounts() {
-        ConsolidationDesk x = desk();
+        ConsolidationDesk x = desk(1, 0);
         x.hold(0, 1, 10000);
         x.rate(1, 2_000_000, 3_000_000);
         x.post(1, BALANCE, NONE, 100);
@@ -167,7 +149,7 @@ public final class BookTest {
     }
 
     private static void wrongHistoricAmounts() {
-        ConsolidationDesk x = desk();
+        ConsolidationDesk x = desk(1, 0);
         x.hold(0, 1, 10000);
         x.rate(1, 1_000_000, 1_000_000);
         x.historic(1, EQUITY, 5);
@@ -190,7 +172,7 @@ public final class BookTest {
     }
 
     private static void historicAmountsInTheGroupsCurrency() {
-        ConsolidationDesk x = desk();
+        ConsolidationDesk x = desk(1, 0);
         x.hold(0, 2, 10000);
         for (int c = 0; c <= 2; c += 2) {
             x.post(c, BALANCE, NONE, 40 + c);

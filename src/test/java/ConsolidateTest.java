@@ -1,13 +1,5 @@
 /** Promises 12 (consolidate), 13 (group), 14 (trace) and 15 (minority). */
-public final class ConsolidateTest {
-    private static final int NONE = ConsolidationDesk.NONE;
-    private static final long LIMIT = 1_000_000_000_000L;
-    private static final int BALANCE = 0;
-    private static final int RESULT = 1;
-    private static final int EQUITY = 2;
-    private static final int RESERVE = 3;
-    private static final Checks CHECKS = new Checks();
-
+public final class ConsolidateTest extends DeskTest {
     public static void main(String[] args) {
         theOrderOfHindrances();
         onlyTheControlledHinder();
@@ -28,18 +20,6 @@ public final class ConsolidateTest {
         greatAmounts();
         twelveOfEach();
         CHECKS.end();
-    }
-
-    /** The head and companies of the currencies; balance, result, equity and reserve. */
-    private static ConsolidationDesk desk(int... currencies) {
-        ConsolidationDesk x = new ConsolidationDesk();
-        for (int currency : currencies) {
-            x.company(currency);
-        }
-        for (int sort = 1; sort <= 4; sort++) {
-            x.account(sort);
-        }
-        return x;
     }
 
     private static void theOrderOfHindrances() {

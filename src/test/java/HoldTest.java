@@ -1,9 +1,5 @@
 /** Promises 4 (hold), 10 (controlled) and 11 (effective). */
-public final class HoldTest {
-    private static final int NONE = ConsolidationDesk.NONE;
-    private static final long WHOLE = 10_000_000_000_000_000L;
-    private static final Checks CHECKS = new Checks();
-
+public final class HoldTest extends DeskTest {
     public static void main(String[] args) {
         wrongNumbers();
         noPartOfItself();
@@ -19,16 +15,12 @@ public final class HoldTest {
         CHECKS.end();
     }
 
-    private static ConsolidationDesk desk(int companies) {
-        ConsolidationDesk x = new ConsolidationDesk();
-        for (int c = 1; c < companies; c++) {
-            x.company(0);
-        }
-        return x;
+    private static ConsolidationDesk deskOf(int companies) {
+        return bareDesk(new int[companies - 1]);
     }
 
     private static void wrongNumbers() {
-        ConsolidationDesk x = desk(3);
+        ConsolidationDesk x = deskOf(3);
         int[] wrongCompanies = {-1, 3, 12, Integer.MIN_VALUE, Integer.MAX_VALUE};
         for (int wrong : wrongCompanies) {
             CHECKS.due("4: owner " + wrong, x.hold(wrong, 1, 1), false);
@@ -50,7 +42,7 @@ public final class HoldTest {
     }
 
     private static void noPartOfItself() {
-        ConsolidationDesk x = desk(4);
+        ConsolidationDesk x = deskOf(4);
         CHECKS.due("4: of itself", x.hold(1, 1, 1), false);
         CHECKS.due("4: nothing of itself", x.hold(1, 1, 0), true);
         CHECKS.due("4: the head of itself", x.hold(0, 0, 10000), false);
@@ -65,7 +57,7 @@ public final class HoldTest {
     }
 
     private static void chainsOfFour() {
-        ConsolidationDesk x = desk(7);
+        ConsolidationDesk x = deskOf(7);
         for (int c = 0; c < 4; c++) {
             CHECKS.due("4: holding " + c, x.hold(c, c + 1, 10000), true);
         }
@@ -83,7 +75,7 @@ public final class HoldTest {
 
     private static void chainsJoined() {
         // Counted for any company, also where the head is far away.
-        ConsolidationDesk x = desk(8);
+        ConsolidationDesk x = deskOf(8);
         x.hold(7, 6, 100);
         x.hold(6, 5, 100);
         x.hold(4, 3, 100);
@@ -96,7 +88,7 @@ public final class HoldTest {
     }
 
     private static void atMostTheWhole() {
-        ConsolidationDesk x = desk(4);
+        ConsolidationDesk x = deskOf(4);
         CHECKS.due("4: 6000 of 3", x.hold(0, 3, 6000), true);
         CHECKS.due("4: 4001 more", x.hold(1, 3, 4001), false);
         CHECKS.due("4: 4000 more", x.hold(1, 3, 4000), true);
@@ -109,7 +101,7 @@ public final class HoldTest {
     }
 
     private static void control() {
-        ConsolidationDesk x = desk(4);
+        ConsolidationDesk x = deskOf(4);
         x.hold(0, 1, 5000);
         CHECKS.due("10: half is not enough", x.controlled(1), 0);
         x.hold(0, 1, 5001);
@@ -126,7 +118,7 @@ public final class HoldTest {
     }
 
     private static void controlIsTheLeastSet() {
-        ConsolidationDesk x = desk(4);
+        ConsolidationDesk x = deskOf(4);
         x.hold(2, 1, 10000);
         x.hold(3, 2, 10000);
         CHECKS.due("10: held whole by one without control", x.controlled(1), 0);
@@ -139,7 +131,7 @@ public final class HoldTest {
     }
 
     private static void controlThroughTheLongestChain() {
-        ConsolidationDesk x = desk(6);
+        ConsolidationDesk x = deskOf(6);
         x.hold(0, 5, 6000);
         x.hold(5, 4, 6000);
         x.hold(4, 3, 6000);
@@ -152,7 +144,7 @@ public final class HoldTest {
     }
 
     private static void shares() {
-        ConsolidationDesk x = desk(6);
+        ConsolidationDesk x = deskOf(6);
         CHECKS.due("11: nobody's", x.effective(1), 0);
         x.hold(0, 1, 1);
         x.hold(1, 2, 1);
@@ -174,7 +166,7 @@ public final class HoldTest {
     }
 
     private static void sharesOfDiamonds() {
-        ConsolidationDesk x = desk(5);
+        ConsolidationDesk x = deskOf(5);
         x.hold(0, 1, 8000);
         x.hold(0, 2, 7000);
         x.hold(1, 3, 3000);
@@ -191,7 +183,7 @@ public final class HoldTest {
     }
 
     private static void theHeadCanBeHeld() {
-        ConsolidationDesk x = desk(7);
+        ConsolidationDesk x = deskOf(7);
         CHECKS.due("4: 1 of the head", x.hold(1, 0, 10000), true);
         CHECKS.due("10: the owner of the head", x.controlled(1), 0);
         CHECKS.due("10: the head", x.controlled(0), 1);

@@ -2,12 +2,9 @@ import java.util.NoSuchElementException;
 import java.util.Random;
 
 /** All promises: long runs of chosen calls, the same ones every time, against DeskModel. */
-public final class ModelTest {
-    private static final int NONE = ConsolidationDesk.NONE;
+public final class ModelTest extends DeskTest {
     private static final int RUNS = 600;
     private static final int CALLS = 512;
-    private static final long LIMIT = 1_000_000_000_000L;
-    private static final Checks CHECKS = new Checks();
 
     private final int run;
     private final Random random;

@@ -1,8 +1,5 @@
 /** Promises 16 (openItems) and 17 (openItem). */
-public final class OpenItemTest {
-    private static final int NONE = ConsolidationDesk.NONE;
-    private static final Checks CHECKS = new Checks();
-
+public final class OpenItemTest extends DeskTest {
     public static void main(String[] args) {
         beforeAny();
         theOrder();
@@ -15,7 +12,7 @@ public final class OpenItemTest {
     }
 
     /** Companies of currency 0, all held whole by the head; two balance accounts, a result, a reserve. */
-    private static ConsolidationDesk desk(int companies) {
+    private static ConsolidationDesk deskOf(int companies) {
         ConsolidationDesk x = new ConsolidationDesk();
         for (int c = 1; c < companies; c++) {
             x.company(0);
@@ -29,9 +26,8 @@ public final class OpenItemTest {
     }
 
     /** Posts with the partner, and the other side of it without one. */
-    private static void post(ConsolidationDesk x, int company, int account, int partner, long cents) {
-        x.post(company, account, partner, cents);
-        x.post(company, account, NONE, -cents);
+    private static void postWith(ConsolidationDesk x, int company, int account, int partner, long cents) {
+        post(x, company, account, partner, account, cents);
     }
 
     private static void item(ConsolidationDesk x, int i, int company, int partner, int account, long left) {
@@ -42,8 +38,8 @@ public final class OpenItemTest {
     }
 
     private static void beforeAny() {
-        ConsolidationDesk x = desk(2);
-        post(x, 0, 0, 1, 5);
+        ConsolidationDesk x = deskOf(2);
+        postWith(x, 0, 0, 1, 5);
         CHECKS.due("16: before any", x.openItems(), 0);
         CHECKS.throwsNoSuchElement("17: before any", () -> x.openItem(0, 0));
         x.consolidate();
@@ -52,15 +48,15 @@ public final class OpenItemTest {
     }
 
     private static void theOrder() {
-        ConsolidationDesk x = desk(12);
-        post(x, 11, 3, 10, 8);
-        post(x, 11, 0, 10, 7);
-        post(x, 2, 0, 1, 4);
-        post(x, 2, 0, 11, 6);
-        post(x, 2, 2, 0, 3);
-        post(x, 2, 3, 1, 5);
-        post(x, 0, 3, 2, 2);
-        post(x, 0, 2, 2, -1);
+        ConsolidationDesk x = deskOf(12);
+        postWith(x, 11, 3, 10, 8);
+        postWith(x, 11, 0, 10, 7);
+        postWith(x, 2, 0, 1, 4);
+        postWith(x, 2, 0, 11, 6);
+        postWith(x, 2, 2, 0, 3);
+        postWith(x, 2, 3, 1, 5);
+        postWith(x, 0, 3, 2, 2);
+        postWith(x, 0, 2, 2, -1);
         x.consolidate();
         CHECKS.due("16: openItems()", x.openItems(), 7);
         item(x, 0, 0, 2, 3, 2);
@@ -73,15 +69,15 @@ public final class OpenItemTest {
     }
 
     private static void whatIsLeft() {
-        ConsolidationDesk x = desk(3);
-        post(x, 0, 0, 1, 100);
-        post(x, 1, 0, 0, -100);
-        post(x, 0, 2, 1, -70);
-        post(x, 1, 2, 0, 100);
-        post(x, 0, 3, 1, -10);
-        post(x, 1, 3, 0, -20);
-        post(x, 1, 0, 2, 15);
-        post(x, 2, 0, 1, -10);
+        ConsolidationDesk x = deskOf(3);
+        postWith(x, 0, 0, 1, 100);
+        postWith(x, 1, 0, 0, -100);
+        postWith(x, 0, 2, 1, -70);
+        postWith(x, 1, 2, 0, 100);
+        postWith(x, 0, 3, 1, -10);
+        postWith(x, 1, 3, 0, -20);
+        postWith(x, 1, 0, 2, 15);
+        postWith(x, 2, 0, 1, -10);
         x.consolidate();
         CHECKS.due("16: openItems()", x.openItems(), 4);
         item(x, 0, 0, 1, 3, -10);
@@ -93,9 +89,9 @@ public final class OpenItemTest {
     }
 
     private static void wrongNumbers() {
-        ConsolidationDesk x = desk(2);
-        post(x, 0, 0, 1, 5);
-        post(x, 1, 0, 0, 5);
+        ConsolidationDesk x = deskOf(2);
+        postWith(x, 0, 0, 1, 5);
+        postWith(x, 1, 0, 0, 5);
         x.consolidate();
         int[] wrongItems = {-1, 2, 3, Integer.MIN_VALUE, Integer.MAX_VALUE};
         for (int wrong : wrongItems) {
@@ -109,11 +105,11 @@ public final class OpenItemTest {
     }
 
     private static void onlyPairsOfTheControlled() {
-        ConsolidationDesk x = desk(3);
+        ConsolidationDesk x = deskOf(3);
         x.hold(0, 2, 5000);
-        post(x, 0, 0, 2, 5);
-        post(x, 2, 0, 1, 6);
-        post(x, 1, 0, 0, 7);
+        postWith(x, 0, 0, 2, 5);
+        postWith(x, 2, 0, 1, 6);
+        postWith(x, 1, 0, 0, 7);
         x.consolidate();
         CHECKS.due("16: openItems()", x.openItems(), 1);
         item(x, 0, 1, 0, 0, 7);
@@ -127,13 +123,13 @@ public final class OpenItemTest {
     }
 
     private static void afterTranslation() {
-        ConsolidationDesk x = desk(2);
+        ConsolidationDesk x = deskOf(2);
         x.company(1);
         x.hold(0, 2, 10000);
         x.rate(1, 400_000, 2_000_000);
-        post(x, 2, 0, 0, 1);
-        post(x, 2, 3, 0, 50);
-        post(x, 0, 3, 2, -100);
+        postWith(x, 2, 0, 0, 1);
+        postWith(x, 2, 3, 0, 50);
+        postWith(x, 0, 3, 2, -100);
         x.consolidate();
         CHECKS.due("16: rounded to 0, and taken out whole", x.openItems(), 0);
         x.rate(1, 500_000, 2_100_000);
@@ -141,15 +137,15 @@ public final class OpenItemTest {
         CHECKS.due("16: rounded to 1, and some left", x.openItems(), 2);
         item(x, 0, 2, 0, 0, 1);
         item(x, 1, 2, 0, 3, 5);
-        post(x, 2, 0, 0, 1);
+        postWith(x, 2, 0, 0, 1);
         CHECKS.due("17: the report stays", x.openItem(0, 3), 1);
     }
 
     private static void anEmptiedList() {
-        ConsolidationDesk x = desk(2);
-        post(x, 0, 0, 1, 5);
+        ConsolidationDesk x = deskOf(2);
+        postWith(x, 0, 0, 1, 5);
         x.consolidate();
-        post(x, 1, 0, 0, -5);
+        postWith(x, 1, 0, 0, -5);
         x.consolidate();
         CHECKS.due("16: nothing is left", x.openItems(), 0);
         CHECKS.throwsNoSuchElement("17: nothing is left", () -> x.openItem(0, 0));

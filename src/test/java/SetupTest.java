@@ -1,8 +1,5 @@
 /** Promises 1 (a new object), 2 (company), 3 (account) and 5 (rate). */
-public final class SetupTest {
-    private static final int NONE = ConsolidationDesk.NONE;
-    private static final Checks CHECKS = new Checks();
-
+public final class SetupTest extends DeskTest {
     public static void main(String[] args) {
         newObject();
         objectsAreApart();

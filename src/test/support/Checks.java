@@ -8,12 +8,18 @@ final class Checks {
 
     private int wrong = 0;
     private int calls = 0;
+    private String sentence = "";
+
+    /** Wrong answers from here on are told together with these words of the document. */
+    void sentence(String words) {
+        sentence = "\"" + words + "\": ";
+    }
 
     void due(String call, long got, long want) {
         calls++;
         if (got != want) {
             wrong++;
-            System.out.println(call + " answered " + got + ", due is " + want);
+            System.out.println(sentence + call + " answered " + got + ", due is " + want);
         }
     }
 
@@ -26,7 +32,7 @@ final class Checks {
         try {
             long got = body.answer();
             wrong++;
-            System.out.println(call + " answered " + got + ", due is NoSuchElementException");
+            System.out.println(sentence + call + " answered " + got + ", due is NoSuchElementException");
         } catch (NoSuchElementException e) {
             return;
         }
