@@ -18,7 +18,6 @@ public final class ConsolidateTest extends DeskTest {
         outsidersBeforeElimination();
         negativeNetAssets();
         greatAmounts();
-        twelveOfEach();
         CHECKS.end();
     }
 
@@ -360,35 +359,5 @@ public final class ConsolidateTest extends DeskTest {
         CHECKS.due("15: 9374499849979999 parts of 10^16", x.minority(4), -56_246_999_099_879_994L);
         CHECKS.due("13: group(0)", x.group(0), -3_753_000_840_120_006L);
         CHECKS.due("16: ten with each of the four others", x.openItems(), 40);
-    }
-
-    private static void twelveOfEach() {
-        ConsolidationDesk x = new ConsolidationDesk();
-        for (int a = 0; a < 12; a++) {
-            x.account(a == 5 ? 4 : 1 + a % 2);
-        }
-        for (int c = 1; c < 12; c++) {
-            x.company(0);
-            x.hold(0, c, 9000);
-        }
-        // All of one sign for a pair and account, so that nothing is taken out.
-        for (int c = 0; c < 12; c++) {
-            for (int partner = 0; partner < 12; partner++) {
-                x.post(c, 0, partner, 10);
-                x.post(c, 10, partner, 20);
-                x.post(c, 11, partner, -30);
-            }
-        }
-        CHECKS.due("12: consolidate()", x.consolidate(), 0);
-        CHECKS.due("13: group(0)", x.group(0), 1320);
-        CHECKS.due("13: group(11)", x.group(11), -3960);
-        CHECKS.due("14: the last of the last", x.trace(11, 11, 1), -330);
-        CHECKS.due("14: the reserve", x.trace(5, 11, 2), 33);
-        CHECKS.due("15: the last", x.minority(11), -33);
-        CHECKS.due("16: all are open", x.openItems(), 396);
-        CHECKS.due("17: the last, company", x.openItem(395, 0), 11);
-        CHECKS.due("17: the last, partner", x.openItem(395, 1), 10);
-        CHECKS.due("17: the last, account", x.openItem(395, 2), 11);
-        CHECKS.due("17: the last, amount", x.openItem(395, 3), -30);
     }
 }

@@ -25,6 +25,7 @@ public final class ReportEdgesTest extends DeskTest {
         theOutsidersPartOfGreatAmounts();
         theCredit();
         theGroup();
+        twelveOfEach();
         CHECKS.end();
     }
 
@@ -452,5 +453,43 @@ public final class ReportEdgesTest extends DeskTest {
         CHECKS.due("group of the result account", x.group(RESULT), -168_402);
         CHECKS.due("group of one that nobody used", x.group(EQUITY), 0);
         CHECKS.due("group of the reserve, the outsiders'", x.group(RESERVE), -x.minority(1));
+    }
+
+    private static void twelveOfEach() {
+        CHECKS.sentence("COMPANIES 0 .. 11 .. ACCOUNTS 0 .. 11 .. for each pair of controlled companies and each account");
+        ConsolidationDesk x = new ConsolidationDesk();
+        for (int a = 0; a < 12; a++) {
+            x.account(a == 5 ? 4 : 1 + a % 2);
+        }
+        for (int c = 1; c < 12; c++) {
+            x.company(0);
+            x.hold(0, c, 9000);
+        }
+        for (int c = 0; c < 12; c++) {
+            for (int partner = 0; partner < 12; partner++) {
+                postOfOneSign(x, c, partner);
+            }
+        }
+        CHECKS.due("consolidate()", x.consolidate(), 0);
+        CHECKS.due("group(0), 36 pairs of debits and 30 of credits", x.group(0), 120);
+        CHECKS.due("group(11)", x.group(11), -360);
+        CHECKS.due("the last account of the last company", x.trace(11, 11, 1), -30);
+        CHECKS.due("the last company's reserve", x.trace(5, 11, 2), 3);
+        CHECKS.due("the last company's outside owners", x.minority(11), -3);
+        CHECKS.due("all are open", x.openItems(), 396);
+        long[] last = {11, 10, 11, -30};
+        for (int what = 0; what < 4; what++) {
+            CHECKS.due("the last one, " + what, x.openItem(395, what), last[what]);
+        }
+    }
+
+    /** Of one sign for a pair and account, so that nothing is taken out, but of both signs among the pairs. */
+    private static void postOfOneSign(ConsolidationDesk x, int company, int partner) {
+        int sign = Math.min(company, partner) % 2 == 0 ? 1 : -1;
+        if (company != partner) {
+            x.post(company, 0, partner, sign * 10);
+            x.post(company, 10, partner, sign * 20);
+            x.post(company, 11, partner, sign * -30);
+        }
     }
 }

@@ -24,6 +24,7 @@ public final class TermsEdgesTest extends DeskTest {
         leastSuchSet();
         shareOfTheHead();
         sumOverAllChains();
+        brokenChains();
         partsOfEachChain();
         CHECKS.end();
     }
@@ -368,6 +369,19 @@ public final class TermsEdgesTest extends DeskTest {
         CHECKS.due("effective(4), in all", x.effective(4), WHOLE / 10000 * 8750);
         x.hold(0, 3, 10000);
         CHECKS.due("effective(4), all of it the head's", x.effective(4), WHOLE);
+    }
+
+    private static void brokenChains() {
+        CHECKS.sentence("of others the sum over all chains from the head of the products of their holdings");
+        ConsolidationDesk x = bareDesk(0, 0, 0, 0, 0);
+        for (int c = 0; c < 4; c++) {
+            x.hold(c, c + 1, 10000);
+        }
+        CHECKS.due("effective(4), a chain of four", x.effective(4), WHOLE);
+        x.hold(0, 1, 0);
+        CHECKS.due("effective(4), without its first", x.effective(4), 0);
+        x.hold(4, 5, 10000);
+        CHECKS.due("effective(5), behind it", x.effective(5), 0);
     }
 
     private static void partsOfEachChain() {
